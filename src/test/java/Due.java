@@ -57,11 +57,6 @@ final class Due {
         same("orchard() of '" + text + "'", orchard(new NameOrchard(), text), kind == 0 ? 0 : kind + 16 * place);
     }
 
-    /** The fault at the first place where a part of the text stands. */
-    static void faultAt(String text, int kind, String part) {
-        fault(text, kind, text.indexOf(part));
-    }
-
     /** Ends the test: with 1 if an answer was wrong. */
     static void end() {
         if (wrong > 0) {
