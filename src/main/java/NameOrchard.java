@@ -16,6 +16,8 @@ public final class NameOrchard {
     private final Draws draws = new Draws();
     private final State[] marks = new State[MARKS];
     private final int[] tally = new int[Told.APPLES];
+    /** Of the strangers who call one apple: of ten days those on which they don't come. */
+    private final int[] absent = new int[Told.STRANGERS];
     private final Standing[] earlier = new Standing[UNDOS];
     private Told told = new Told();
     private Told draft = new Told();
@@ -100,7 +102,7 @@ public final class NameOrchard {
             case 2:
                 return told.sounds.rhyme(called, sound);
             case 3:
-                return told.isNear(called, sound) ? 1 : 0;
+                return told.nearTo(called) >> sound & 1;
             default:
                 return NONE;
         }
@@ -246,8 +248,8 @@ public final class NameOrchard {
             return false;
         }
         int row = state.tellings.add();
-        state.tellings.put(row, 0, called);
-        state.tellings.put(row, 1, sound);
+        state.tellings.put(row, 0, told.sounds.edits(called, sound));
+        state.tellings.put(row, 1, told.sounds.rhyme(called, sound));
         state.tellings.put(row, 2, near ? 1 : 0);
         return true;
     }
@@ -281,7 +283,11 @@ public final class NameOrchard {
         if (many < 1 || many > 30) {
             return NONE;
         }
-        return lossOf(state.now, many);
+        int lost = 0;
+        for (int apple = 0; apple < told.apples.size(); apple++) {
+            lost += lossOf(state.now, apple, many);
+        }
+        return lost;
     }
 
     public int best(int apple, int many) {
@@ -296,7 +302,8 @@ public final class NameOrchard {
                 continue;
             }
             trial.name(apple, sound);
-            int lost = lossOf(trial, many);
+            // What the other ones lose stays the same.
+            int lost = lossOf(trial, apple, many);
             if (best == NONE || lost < least) {
                 best = sound;
                 least = lost;
@@ -495,9 +502,7 @@ public final class NameOrchard {
 
     private boolean fits(int most, int least) {
         for (int i = 0; i < state.tellings.size(); i++) {
-            int called = state.tellings.at(i, 0);
-            int sound = state.tellings.at(i, 1);
-            boolean near = told.sounds.edits(called, sound) <= most || told.sounds.rhyme(called, sound) >= least;
+            boolean near = state.tellings.at(i, 0) <= most || state.tellings.at(i, 1) >= least;
             if (near != (state.tellings.at(i, 2) == 1)) {
                 return false;
             }
@@ -505,25 +510,26 @@ public final class NameOrchard {
         return true;
     }
 
-    private int lossOf(Standing standing, int days) {
-        int lost = 0;
-        for (int apple = 0; apple < told.apples.size(); apple++) {
-            if (standing.hangs(apple) && !told.isDeaf(apple)) {
-                int chance = 1000000 - spared(standing, apple, days);
-                lost += told.apples.at(apple, Told.WORTH) * chance / 1000;
-            }
+    private int lossOf(Standing standing, int apple, int days) {
+        if (!standing.hangs(apple) || told.isDeaf(apple)) {
+            return 0;
         }
-        return lost;
+        return told.apples.at(apple, Told.WORTH) * (1000000 - spared(standing, apple, days)) / 1000;
     }
 
     /** The chance in millionths that no stranger calls the apple. */
     private int spared(Standing standing, int apple, int days) {
+        int callers = 0;
+        for (int i = 0; i < told.strangers.size(); i++) {
+            if (standing.isMeant(told, apple, told.strangers.at(i, 0)) && callers < absent.length) {
+                absent[callers] = 10 - told.strangers.at(i, 1);
+                callers++;
+            }
+        }
         int chance = 1000000;
         for (int day = 0; day < days; day++) {
-            for (int i = 0; i < told.strangers.size(); i++) {
-                if (standing.isMeant(told, apple, told.strangers.at(i, 0))) {
-                    chance = chance * (10 - told.strangers.at(i, 1)) / 10;
-                }
+            for (int i = 0; i < callers && i < absent.length; i++) {
+                chance = chance * absent[i] / 10;
             }
         }
         return chance;
@@ -717,7 +723,6 @@ public final class NameOrchard {
 
         private void clear() {
             length = 0;
-            at = 0;
         }
 
         private void step() {
@@ -743,7 +748,7 @@ public final class NameOrchard {
         }
 
         private void readWord() {
-            while (isLetter(signAt(at))) {
+            while (at < length && isLetter(signAt(at))) {
                 at++;
             }
             if (at - place > LONGEST_WORD) {
@@ -757,7 +762,7 @@ public final class NameOrchard {
         }
 
         private void readNumber() {
-            while (isDigit(signAt(at))) {
+            while (at < length && isDigit(signAt(at))) {
                 at++;
             }
             if (at - place > LONGEST_NUMBER) {
@@ -834,34 +839,43 @@ public final class NameOrchard {
         }
 
         private int letters(int i) {
+            long rest = at(i);
             int letters = 0;
-            while (letters < Tape.LONGEST_WORD && letter(i, letters) != 0) {
+            while (letters < Tape.LONGEST_WORD && rest != 0) {
+                rest >>= BITS;
                 letters++;
             }
             return letters;
         }
 
         private boolean holds(int i, int letter) {
-            for (int place = 0; place < Tape.LONGEST_WORD; place++) {
-                if (letter != 0 && letter(i, place) == letter) {
+            long rest = at(i);
+            for (int place = 0; place < Tape.LONGEST_WORD && letter != 0; place++) {
+                if ((rest & LETTER) == letter) {
                     return true;
                 }
+                rest >>= BITS;
             }
             return false;
         }
 
         private int start(int a, int b) {
+            long first = at(a);
+            long second = at(b);
             int same = 0;
-            while (same < Tape.LONGEST_WORD && letter(a, same) != 0 && letter(a, same) == letter(b, same)) {
+            while (same < Tape.LONGEST_WORD && (first & LETTER) != 0 && (first & LETTER) == (second & LETTER)) {
+                first >>= BITS;
+                second >>= BITS;
                 same++;
             }
             return same;
         }
 
         private int rhyme(int a, int b) {
-            int most = Math.min(letters(a), letters(b));
+            int last = letters(a) - 1;
+            int shift = letters(b) - 1 - last;
             int same = 0;
-            while (same < most && letter(a, letters(a) - 1 - same) == letter(b, letters(b) - 1 - same)) {
+            while (same <= last && letter(a, last - same) == letter(b, last - same + shift)) {
                 same++;
             }
             return same;
@@ -870,16 +884,20 @@ public final class NameOrchard {
         /** The row holds the edits from the letters of a so far to each beginning of b. */
         private int edits(int a, int b) {
             int wide = letters(b);
+            int high = letters(a);
             for (int j = 0; j < row.length; j++) {
                 row[j] = j;
             }
-            for (int i = 0; i < letters(a); i++) {
+            for (int i = 0; i < high; i++) {
+                int letter = letter(a, i);
+                long rest = at(b);
                 int corner = i;
                 row[0] = i + 1;
                 for (int j = 1; j <= wide && j < row.length; j++) {
-                    int changed = corner + (letter(a, i) == letter(b, j - 1) ? 0 : 1);
+                    int changed = corner + ((rest & LETTER) == letter ? 0 : 1);
                     corner = row[j];
                     row[j] = Math.min(changed, 1 + Math.min(row[j], row[j - 1]));
+                    rest >>= BITS;
                 }
             }
             return wide < row.length ? row[wide] : 0;
@@ -1119,6 +1137,8 @@ public final class NameOrchard {
         private static final int OTHERS = 6;
         private static final int SOUNDS = APPLES + OTHERS;
         private static final int PEOPLE = 5;
+        private static final int STRANGERS = 6;
+        private static final int ROWS = 12;
 
         private static final int SORT = 0;
         private static final int ALIAS = 1;
@@ -1137,7 +1157,7 @@ public final class NameOrchard {
         /** Lane, how loud, the letter that is not said (0: none). */
         private final Table people = new Table(PEOPLE, 3);
         /** The SOUND, of ten. */
-        private final Table strangers = new Table(6, 2);
+        private final Table strangers = new Table(STRANGERS, 2);
         /** How many apples, then these. */
         private final Table pages = new Table(4, 1 + APPLES);
         private final Table banns = new Table(4, 2);
@@ -1145,8 +1165,13 @@ public final class NameOrchard {
         private final Formula value = new Formula();
         /** Of each SOUND called: those that it is near to, as bits. */
         private final int[] nearTo = new int[SOUNDS];
+        /** Of each row: the apples that hang there, as bits. */
+        private final int[] inRow = new int[ROWS];
+        /** Of each apple: its twin, as a bit. */
+        private final int[] twins = new int[APPLES];
         private boolean nearTold;
         private boolean valueTold;
+        private int alias;
         private int welsh;
         private int deaf;
 
@@ -1182,8 +1207,15 @@ public final class NameOrchard {
             for (int called = 0; called < nearTo.length; called++) {
                 nearTo[called] = nearOnes(called);
             }
-            welsh = ofSort(WELSH);
-            deaf = ofSort(DEAF);
+            alias = having(SORT, ALIAS);
+            welsh = having(SORT, WELSH);
+            deaf = having(SORT, DEAF);
+            for (int row = 0; row < inRow.length; row++) {
+                inRow[row] = having(ROW, row);
+            }
+            for (int apple = 0; apple < twins.length; apple++) {
+                twins[apple] = having(TWIN, apple);
+            }
         }
 
         private int nearOnes(int called) {
@@ -1196,10 +1228,11 @@ public final class NameOrchard {
             return ones;
         }
 
-        private int ofSort(int sort) {
+        /** The apples of which so much is told, as bits. */
+        private int having(int column, int number) {
             int ones = 0;
             for (int apple = 0; apple < apples.size(); apple++) {
-                ones |= apples.at(apple, SORT) == sort ? 1 << apple : 0;
+                ones |= apples.at(apple, column) == number ? 1 << apple : 0;
             }
             return ones;
         }
@@ -1220,11 +1253,8 @@ public final class NameOrchard {
             return hasApple(apple) && (deaf >> apple & 1) != 0;
         }
 
-        private boolean isNear(int called, int sound) {
-            if (called < 0 || called >= nearTo.length || sound < 0 || sound >= SOUNDS) {
-                return false;
-            }
-            return (nearTo[called] >> sound & 1) != 0;
+        private int nearTo(int called) {
+            return called >= 0 && called < nearTo.length ? nearTo[called] : 0;
         }
 
         private boolean canSay(int person, int sound) {
@@ -1280,25 +1310,22 @@ public final class NameOrchard {
         /** The apples no more than so many rows from the lane. */
         private int within(int lane, int rows) {
             int ones = 0;
-            for (int apple = 0; apple < apples.size(); apple++) {
-                ones |= Math.abs(apples.at(apple, ROW) - lane) <= rows ? 1 << apple : 0;
+            for (int row = Math.max(0, lane - rows); row <= lane + rows && row < inRow.length; row++) {
+                ones |= inRow[row];
             }
             return ones;
-        }
-
-        private int twinsOf(int ones) {
-            int twins = 0;
-            for (int apple = 0; apple < apples.size(); apple++) {
-                int twin = apples.at(apple, TWIN);
-                twins |= (ones >> apple & 1) != 0 && hasApple(twin) ? 1 << twin : 0;
-            }
-            return twins;
         }
 
         /** What falls of the hanging ones, when some hear it wholly and some hear it at all. */
         private int felled(int hang, int loose, int whole, int heard) {
             int fallen = (whole & ~welsh | heard & loose) & hang;
-            return fallen | twinsOf(fallen) & hang;
+            int rest = fallen;
+            int pairs = fallen;
+            for (int apple = 0; apple < twins.length && rest != 0; apple++) {
+                pairs |= (rest & 1) != 0 ? twins[apple] : 0;
+                rest >>= 1;
+            }
+            return pairs & hang;
         }
     }
 
@@ -1364,19 +1391,21 @@ public final class NameOrchard {
         }
 
         /** Whether the SOUND called is near to the apple's; an alias wants its very own. */
-        private boolean isMeant(Told told, int apple, int sound) {
-            if (told.apples.at(apple, Told.SORT) == Told.ALIAS) {
-                return soundOf(apple) == sound;
+        private boolean isMeant(Told told, int apple, int called) {
+            int sound = soundOf(apple);
+            if ((told.alias >> apple & 1) != 0) {
+                return sound == called;
             }
-            return told.isNear(sound, soundOf(apple));
+            return sound >= 0 && (told.nearTo(called) >> sound & 1) != 0;
         }
 
-        private int meant(Told told, int sound) {
+        private int meant(Told told, int called) {
+            int able = hang & ~told.deaf;
             int ones = 0;
-            for (int apple = 0; apple < sounds.length; apple++) {
-                ones |= hangs(apple) && isMeant(told, apple, sound) ? 1 << apple : 0;
+            for (int apple = 0; apple < sounds.length && able >> apple != 0; apple++) {
+                ones |= (able >> apple & 1) != 0 && isMeant(told, apple, called) ? 1 << apple : 0;
             }
-            return ones & ~told.deaf;
+            return ones;
         }
 
         private int fallers(Told told, int lane, int loud, int sound) {
@@ -1423,7 +1452,7 @@ public final class NameOrchard {
         private final Standing now = new Standing();
         /** Of a line: its kind, who, and what is called. */
         private final Table lines = new Table(Reader.LINES, 3);
-        /** The SOUND called, the one that it was near to or not, 1 if it was. */
+        /** The edits and the rhyme of the two SOUNDS, 1 if the one was near to the other. */
         private final Table tellings = new Table(12, 3);
         /** The apples of which it is told whether they lie, and those that do. */
         private int seen;
@@ -1794,6 +1823,7 @@ public final class NameOrchard {
         private static final int FEWEST = 4;
         /** 3 to the power of the apples: each is down, hangs, or hangs loosely. */
         private static final int STANDINGS = 59049;
+        private static final int WORDS = STANDINGS / 64 + 1;
 
         private final int[] whole = new int[MOST_CALLS];
         private final int[] heard = new int[MOST_CALLS];
@@ -1801,13 +1831,26 @@ public final class NameOrchard {
         private final int[] values = new int[DAYS * Told.APPLES];
         /** Of each day and apple: the most that it is worth then or later. */
         private final int[] ceilings = new int[DAYS * Told.APPLES];
-        private final long[] met = new long[STANDINGS / 64 + 1];
-        private long[] front = new long[STANDINGS / 64 + 1];
-        private long[] next = new long[STANDINGS / 64 + 1];
+        /** Of each set of apples: the sum of their digits in a standing in which they hang. */
+        private final int[] thirds = new int[1 << Told.APPLES];
+        /** The standings met so far, those just met, and those met by one call more: a bit for each. */
+        private final long[] met = new long[WORDS];
+        private long[] front = new long[WORDS];
+        private long[] next = new long[WORDS];
         private int calls;
         private int days;
         private int most;
         private int first;
+
+        private Search() {
+            int digit = 1;
+            for (int apple = 0; apple < Told.APPLES; apple++) {
+                for (int ones = 0; ones < 1 << apple && ones + (1 << apple) < thirds.length; ones++) {
+                    thirds[ones + (1 << apple)] = thirds[ones] + digit;
+                }
+                digit *= 3;
+            }
+        }
 
         /** Calls that are heard alike do alike: of these the first one stands for all. */
         private void gather(Told told, Standing now) {
@@ -1863,9 +1906,10 @@ public final class NameOrchard {
 
         private static int sum(int[] worths, int day, int ones) {
             int sum = 0;
-            for (int apple = 0; apple < Told.APPLES; apple++) {
-                int i = day * Told.APPLES + apple;
-                sum += (ones >> apple & 1) != 0 && i >= 0 && i < worths.length ? worths[i] : 0;
+            int rest = ones;
+            for (int i = day * Told.APPLES; i >= 0 && i < worths.length && rest != 0; i++) {
+                sum += (rest & 1) != 0 ? worths[i] : 0;
+                rest >>= 1;
             }
             return sum;
         }
@@ -1901,7 +1945,6 @@ public final class NameOrchard {
             }
             gather(told, now);
             Arrays.fill(met, 0);
-            Arrays.fill(front, 0);
             Arrays.fill(next, 0);
             meet(goal, now.loose & goal);
             for (int many = 1; many <= FEWEST; many++) {
@@ -1918,29 +1961,36 @@ public final class NameOrchard {
 
         /** Whether one call more fells all of one of the standings in front; what else comes of them is next. */
         private boolean spread(Told told) {
-            for (int standing = 1; standing < STANDINGS; standing++) {
-                int word = standing / 64;
-                if (word >= front.length || (front[word] >> standing % 64 & 1) == 0) {
-                    continue;
-                }
-                int hang = digits(standing, 1) | digits(standing, 2);
-                int loose = digits(standing, 2);
-                for (int i = 0; i < calls && i < MOST_CALLS; i++) {
-                    int left = hang & ~told.felled(hang, loose, whole[i], heard[i]);
-                    if (left == 0) {
+            for (int word = 0; word < front.length; word++) {
+                long rest = front[word];
+                for (int bit = 0; bit < 64 && rest != 0; bit++) {
+                    if ((rest & 1) != 0 && fellsAll(told, 64 * word + bit)) {
                         return true;
                     }
-                    meet(left, (loose | heard[i]) & left);
+                    rest >>>= 1;
                 }
             }
             return false;
         }
 
-        private void meet(int hang, int loose) {
-            int standing = 0;
-            for (int apple = Told.APPLES - 1; apple >= 0; apple--) {
-                standing = 3 * standing + (hang >> apple & 1) + (loose >> apple & 1);
+        private boolean fellsAll(Told told, int standing) {
+            int loose = digits(standing, 2);
+            int hang = loose | digits(standing, 1);
+            for (int i = 0; i < calls && i < MOST_CALLS; i++) {
+                int left = hang & ~told.felled(hang, loose, whole[i], heard[i]);
+                if (left == 0) {
+                    return true;
+                }
+                meet(left, (loose | heard[i]) & left);
             }
+            return false;
+        }
+
+        private void meet(int hang, int loose) {
+            if (hang < 0 || hang >= thirds.length || loose < 0 || loose >= thirds.length) {
+                return;
+            }
+            int standing = thirds[hang] + thirds[loose];
             int word = standing / 64;
             long bit = 1L << standing % 64;
             if (word < met.length && word < next.length && (met[word] & bit) == 0) {

@@ -135,6 +135,8 @@ public final class ChanceTest {
             Due.same("green, seed " + seed, x.years(seed, 5, 1), 2 - Integer.bitCount(hang));
             Due.same("hang, seed " + seed, x.years(seed, 5, 2), Integer.bitCount(hang));
         }
+        NameOrchard one = Due.told("apple tom plain at 0 0 ripe 60 worth 10;person p lane 0 loud 0;");
+        Due.same("one sound: it is called", one.years(0, 1, 2), 0);
         NameOrchard none = Due.told("person p lane 0 loud 0;");
         Due.same("no sounds", none.years(0, 60, 2), 0);
     }

@@ -1,3 +1,4 @@
+import java.util.List;
 import java.util.NoSuchElementException;
 import java.util.Random;
 
@@ -6,6 +7,9 @@ public final class OracleTest {
     private static final String[] NAMES = {"tom", "tim", "tam", "jim", "kim", "ann", "anna", "anne", "bill", "jill",
         "will", "jack", "john", "joan", "jo", "llew", "llewelyn", "wynn", "beth", "bess", "edits", "base", "age",
         "start", "a", "zz", "o", "size", "rhyme", "abcdefgh", "bcdefgha", "hgfedcba"};
+    /** Names so much alike that many are near. */
+    private static final String[] ALIKE = {"tom", "tim", "tam", "tem", "jim", "kim", "jam", "ham", "sam", "pam", "tip",
+        "tin", "ten", "to", "tomy", "timy", "am", "ate", "tama", "kima", "jima", "om", "im", "mot", "mit", "t"};
     private static final String[] SORTS = {"plain", "plain", "plain", "alias", "welsh", "deaf"};
 
     private final Random chance;
@@ -34,7 +38,7 @@ public final class OracleTest {
     }
 
     private String[] shuffled() {
-        String[] n = NAMES.clone();
+        String[] n = below(2) == 0 ? NAMES.clone() : ALIKE.clone();
         for (int i = n.length - 1; i > 0; i--) {
             int j = below(i + 1);
             String t = n[i];
@@ -89,9 +93,9 @@ public final class OracleTest {
         StringBuilder s = new StringBuilder();
         String[] n = shuffled();
         int used = 0;
-        int apples = below(small ? 6 : 11);
+        int apples = below(12) == 0 ? 0 : 1 + below(small ? 6 : 10);
         int others = below(small ? 3 : 7);
-        int people = below(small ? 4 : 6);
+        int people = below(10) == 0 ? 0 : 1 + below(small ? 3 : 5);
         StringBuilder named = new StringBuilder();
         String[] fruit = new String[apples];
         String[] sounds = new String[apples + others];
@@ -161,8 +165,10 @@ public final class OracleTest {
         StringBuilder s = new StringBuilder(text);
         for (int i = 1 + below(2); i > 0; i--) {
             int at = below(s.length() + 1);
-            int kind = below(4);
-            if (kind == 0 && at < s.length()) {
+            int kind = below(6);
+            if (kind > 3) {
+                swapTokens(s, kind == 4);
+            } else if (kind == 0 && at < s.length()) {
                 s.deleteCharAt(at);
             } else if (kind == 1 && at < s.length()) {
                 s.setCharAt(at, bits[below(bits.length)].charAt(0));
@@ -177,6 +183,18 @@ public final class OracleTest {
             }
         }
         return s.toString();
+    }
+
+    /** Puts a word (or a number) of the text in the place of another one. */
+    private void swapTokens(StringBuilder s, boolean word) {
+        List<Oracle.Tok> some = Oracle.cut(s.toString());
+        some.removeIf(t -> word ? !t.name() : !t.number());
+        if (some.size() < 2) {
+            return;
+        }
+        Oracle.Tok a = some.get(below(some.size()));
+        Oracle.Tok b = some.get(below(some.size()));
+        s.replace(a.place(), a.place() + a.text().length(), b.text());
     }
 
     private String lines() {

@@ -38,6 +38,14 @@ public final class PageBannTest {
                 + "page a;page b a;");
         Due.same("once", thief(y, 0, 0, 1), 0);
         Due.same("twice, the first call and the second one", thief(y, 1, 0, 1), 12);
+        StringBuilder ten = new StringBuilder();
+        for (char c = 'a'; c < 'k'; c++) {
+            ten.append("apple ").append(c).append(" plain at 0 0 ripe 0 worth ").append(1 + c - 'a').append(';');
+        }
+        NameOrchard z = Due.told(ten + "page j i h g f e d c b a;page a;page b c d e f g h i j;");
+        Due.same("all ten", thief(z, 0, 0, 0), 55);
+        Due.same("one", thief(z, 1, 0, 0), 1);
+        Due.same("nine", thief(z, 2, 0, 0), 54);
     }
 
     private static void thievesRefused() {

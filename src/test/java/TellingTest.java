@@ -85,6 +85,9 @@ public final class TellingTest {
         Due.fault("near 00001;", 1, 5);
         Due.fault("near 12345;", 1, 5);
         Due.fault("near 0001size;", 1, 9);
+        Due.fault("apple a plain at 1 12345 ripe 0 worth 0;", 1, 19);
+        Due.fault("apple a plain at 1 00001 ripe 0 worth 0;", 1, 19);
+        Due.fault("apple abcdefgh abcdefghplain at 1 1 ripe 0 worth 0;", 1, 15);
         Due.fault("other Tom;", 1, 6);
         Due.fault("other tom:", 1, 9);
         Due.fault("#", 1, 0);
@@ -269,6 +272,11 @@ public final class TellingTest {
         Due.fault("near ((((1)+1)+1)+1)+((((1))));", 0, 0);
         Due.fault("value not not not not base*not not not not age;", 0, 0);
         Due.fault("near 1+((((1+(2)))));", 5, 14);
+        Due.fault("near (1)+(((((1)))));", 5, 14);
+        Due.fault("near (1)+((((1))));", 0, 0);
+        Due.fault("near not 1+not not not not not 1;", 5, 31);
+        Due.fault("near not(1)+not(not(not 1));", 5, 24);
+        Due.fault("near not(1)+not(not(1));", 0, 0);
     }
 
     private static void tooMany() {
