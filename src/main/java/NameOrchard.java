@@ -383,16 +383,17 @@ public final class NameOrchard {
         if (mark < 0 || mark >= marks.length) {
             return false;
         }
-        if (!back) {
-            marks[mark].copy(state);
-            laid |= 1 << mark;
-            return true;
-        }
-        if ((laid >> mark & 1) == 0) {
+        State kept = marks[mark];
+        if (kept == null || back && (laid >> mark & 1) == 0) {
             return false;
         }
-        state.copy(marks[mark]);
-        undoable = 0;
+        if (back) {
+            state.copy(kept);
+            undoable = 0;
+        } else {
+            kept.copy(state);
+            laid |= 1 << mark;
+        }
         return true;
     }
 
@@ -443,8 +444,9 @@ public final class NameOrchard {
             earlier[earlier.length - 1] = oldest;
             undoable = earlier.length - 1;
         }
-        if (undoable >= 0 && undoable < earlier.length) {
-            earlier[undoable].copy(state.now);
+        Standing kept = undoable >= 0 && undoable < earlier.length ? earlier[undoable] : null;
+        if (kept != null) {
+            kept.copy(state.now);
             undoable++;
         }
     }
