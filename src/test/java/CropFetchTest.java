@@ -9,6 +9,7 @@ public final class CropFetchTest {
         loose();
         twins();
         many();
+        manyCalls();
         fetching();
         fetchingHard();
         Due.end();
@@ -100,6 +101,26 @@ public final class CropFetchTest {
             crop(x, days, y.crop(days, 0), y.crop(days, 1));
         }
         Due.same("fetch", x.fetch(), y.fetch());
+    }
+
+    /** Thirty different calls come ahead of the only one that j hears. */
+    private static void manyCalls() {
+        StringBuilder s = new StringBuilder();
+        for (char c = 'a'; c < 'j'; c++) {
+            s.append("apple ").append(c).append(" plain at 0 0 ripe 0 worth 2;");
+        }
+        s.append("apple j plain at 0 11 ripe 0 worth 99;other ab;other bc;other cd;other de;other ef;other fg;");
+        s.append("person p lane 0 loud 0;person q lane 2 loud 1;person r lane 11 loud 0;");
+        NameOrchard x = Due.told(s + "near size=2 and edits=1 or edits=0;");
+        crop(x, 1, 99, 2 * 16 + 9);
+        crop(x, 2, 103, 10);
+        crop(x, 3, 107, 10);
+        Due.same("not by four", x.fetch(), -1);
+        for (int apple = 0; apple < 6; apple++) {
+            x.pick(apple);
+            x.pass(1);
+        }
+        Due.same("g, h, i and j", x.fetch(), 4);
     }
 
     private static void fetch(String what, String text, int due) {
