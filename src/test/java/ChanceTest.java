@@ -82,16 +82,6 @@ public final class ChanceTest {
         Due.same("a deaf one: the first", z.best(0, 1), 0);
     }
 
-    /** The draws are reckoned once more, in a plain way. */
-    private static final class Draws {
-        private long g;
-
-        private int below(int m) {
-            g = (g * 1103515245L + 12345L) % 2147483648L;
-            return (int) (g / 65536 % m);
-        }
-    }
-
     private static void draws() {
         NameOrchard x = Due.told("apple tom plain at 0 0 ripe 9 worth 10;stranger tom 4;value base;");
         Due.same("seed -1", x.years(-1, 1, 0), -1);
@@ -102,8 +92,7 @@ public final class ChanceTest {
         Due.same("what -1", x.years(1, 1, -1), -1);
         int fell = 0;
         for (int seed = 0; seed < 100; seed++) {
-            Draws d = new Draws();
-            d.g = seed * 101 % 10000;
+            Draws d = new Draws(seed * 101 % 10000);
             boolean falls = d.below(10) < 4 && d.below(12) < 4;
             fell += falls ? 1 : 0;
             Due.same("had, seed " + seed, x.years(seed * 101 % 10000, 1, 0), falls ? 10 : 0);
@@ -118,8 +107,7 @@ public final class ChanceTest {
         NameOrchard x = Due.told("apple tom plain at 0 0 ripe 60 worth 10;apple tim plain at 0 0 ripe 60 worth 5;"
                 + "person p lane 0 loud 0 not tom;person q lane 0 loud 0;value base-age;other jo;");
         for (int seed = 7; seed < 40; seed++) {
-            Draws d = new Draws();
-            d.g = seed;
+            Draws d = new Draws(seed);
             int hang = 3;
             int had = 0;
             for (int day = 0; day < 5; day++) {

@@ -20,6 +20,41 @@ final class Due {
         same(what, got ? 1 : 0, 0);
     }
 
+    static void text(String what, String got, String want) {
+        if (!got.equals(want)) {
+            wrong++;
+            System.out.println(what + " answered\n" + got + ", due is\n" + want);
+        }
+    }
+
+    /** All that can be asked for of a small orchard without a change; some hundred calls. */
+    static String state(NameOrchard x) {
+        StringBuilder s = new StringBuilder();
+        for (int what = 0; what < 15; what++) {
+            s.append(what).append(':').append(x.count(what)).append(' ');
+        }
+        for (int apple = 0; apple < x.count(0); apple++) {
+            s.append("\napple ").append(apple);
+            for (int what = 0; what < 10; what++) {
+                s.append(' ').append(x.apple(apple, what));
+            }
+        }
+        for (int person = 0; person < x.count(2); person++) {
+            s.append("\nperson ").append(person);
+            for (int sound = 0; sound < x.count(1); sound++) {
+                s.append(' ').append(x.falls(person, sound));
+            }
+        }
+        s.append("\nasked");
+        for (int what = 0; what < 4; what++) {
+            s.append(' ').append(x.judged(what)).append(' ').append(x.called(what)).append(' ').append(x.laws(what))
+                    .append(' ').append(x.crop(2, what)).append(' ').append(x.years(7, 9, what)).append(' ')
+                    .append(x.banns(2, 2, what));
+        }
+        return s.append(' ').append(x.fetch()).append(' ').append(x.loss(2)).append(' ').append(x.hide(2, 2)).append('\n')
+                .toString();
+    }
+
     /** Feeds a text of signs 1 to 255, in eights. */
     static void feed(NameOrchard x, String text) {
         for (int i = 0; i < text.length(); i += 24) {
