@@ -179,6 +179,8 @@ public final class EdgeChanceTest {
         Due.same("not by two of them together", Due.told(three + "page a;page a;page b;page c;").hide(0, 0), 2);
         Due.same("both of the most: the first", Due.told(three + "page a;page b;page b;").hide(0, 0), 0);
         Due.same("the last", Due.told(three + "page a;page a;page a;page a b;").hide(0, 0), 3);
+        String least = plain("a", 0, 0, 1) + plain("b", 0, 0, 0);
+        Due.same("one is more than nothing", Due.told(least + "page b;page a;").hide(0, 0), 1);
     }
 
     // "of equal ones the first"

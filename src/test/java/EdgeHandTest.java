@@ -38,6 +38,7 @@ public final class EdgeHandTest {
         anAliasIsThatSound();
         wholly();
         anEcho();
+        looseBeyondAnEcho();
         hangsAndIsNotDeaf();
         itsSoundAsItIsNow();
         welshOnes();
@@ -68,6 +69,7 @@ public final class EdgeHandTest {
     private static void passed() {
         oneToThirty();
         theNextOne();
+        fiveHundredAndTwelve();
     }
 
     private static void undone() {
@@ -279,6 +281,26 @@ public final class EdgeHandTest {
                 Due.same("twice, lane " + lane + " loud " + loud, x.call(0, 0), echo);
                 Due.same("no more, lane " + lane + " loud " + loud, x.call(0, 0), 0);
                 Due.same("the others hang", x.count(6), 10 - Integer.bitCount(echo | fallen));
+            }
+        }
+    }
+
+    // "else not": what is loose does not fall, either, beyond twice loud.
+    private static void looseBeyondAnEcho() {
+        for (int row = 0; row < 12; row++) {
+            for (int loud = 0; loud < 7; loud++) {
+                for (int lane = 0; lane < 12; lane++) {
+                    NameOrchard x = Due.told("apple a welsh at 0 " + row + " ripe 0 worth 1;person p lane " + row
+                            + " loud 0;person q lane " + lane + " loud " + loud + ";page a;other z;bann a z;");
+                    x.call(0, 0);
+                    int due = Math.abs(row - lane) <= 2 * loud ? 1 : 0;
+                    String what = "row " + row + ", lane " + lane + ", loud " + loud;
+                    Due.same("falls, " + what, x.falls(1, 0), due);
+                    Due.same("thief, " + what, x.thief(0, lane, loud), due);
+                    Due.same("banns, " + what, x.banns(lane, loud, 0), due);
+                    Due.same("call, " + what, x.call(1, 0), due);
+                    Due.same("hangs, " + what, x.count(6), 1 - due);
+                }
             }
         }
     }
@@ -600,6 +622,23 @@ public final class EdgeHandTest {
         }
         Due.same("day 12000", y.count(7), 12000);
         Due.same("ripe", y.apple(0, 9), 10);
+    }
+
+    // "An object is used for at most 512 calls after it has been made": up to the last one of these.
+    private static void fiveHundredAndTwelve() {
+        NameOrchard x = new NameOrchard();
+        int calls = 1 + (FOUR.length() + 23) / 24;
+        Due.same("the orchard", Due.orchard(x, FOUR), 0);
+        for (int i = 0; calls < 508; i++, calls += 4) {
+            Due.same("would fall", x.falls(0, 4), 10);
+            Due.same("falls", x.call(0, 4), 10);
+            Due.yes("undone", x.undo());
+            Due.same("a mark of " + i, x.mark(i & 3, (i & 4) != 0) ? 1 : 0, 1);
+        }
+        for (; calls < 511; calls++) {
+            Due.same("all hang", x.count(6), 4);
+        }
+        Due.same("the 512th", x.call(0, 4), 10);
     }
 
     // "UNDO: these, the last 16"

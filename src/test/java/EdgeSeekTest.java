@@ -38,6 +38,7 @@ public final class EdgeSeekTest {
         notByFour();
         hangsAndIsNotDeaf();
         oneBehindAnother();
+        everySetThatHangs();
         fetchAnew();
     }
 
@@ -306,6 +307,20 @@ public final class EdgeSeekTest {
         Due.same("three", x.fetch(), 3);
     }
 
+    // "all .. that hangs and is not deaf", whichever of the ten these are.
+    private static void everySetThatHangs() {
+        for (int mask = 0; mask < 1024; mask++) {
+            StringBuilder s = new StringBuilder("near 1;").append(P);
+            for (int i = 0; i < 10; i++) {
+                s.append("apple ").append(Many.apple(i)).append((mask >> i & 1) != 0 ? " welsh" : " deaf")
+                        .append(" at 0 0 ripe 0 worth 1;");
+            }
+            Due.same("welsh ones of mask " + mask, Due.told(s.toString()).fetch(), mask == 0 ? 0 : 2);
+            NameOrchard x = Due.told(s.toString().replace("welsh", "plain"));
+            Due.same("plain ones of mask " + mask, x.fetch(), mask == 0 ? 0 : 1);
+        }
+    }
+
     private static void fetchAnew() {
         NameOrchard x = Due.told("apple a welsh at 0 0 ripe 9 worth 1;other b;person p lane 0 loud 0 not a;");
         Due.same("he can't say a", x.fetch(), -1);
@@ -395,6 +410,10 @@ public final class EdgeSeekTest {
         x.lies(2, true);
         Due.same("b and c alone", x.called(1), 16);
         Due.same("by p", x.called(2), 1);
+        NameOrchard y = Due.told(plain("a", 4, 0, 1) + P + "person q lane 4 loud 0;" + "person r lane 0 loud 0;");
+        y.lies(0, true);
+        Due.same("by q alone", y.called(2), 2);
+        Due.same("one call", y.called(0), 1);
     }
 
     // "NONE: others, none (but 0)"

@@ -810,6 +810,8 @@ public final class EdgeTellTest {
             Due.same("all is near", x.near(0, 7, 3), 1);
             Due.same("all is worth seven", x.apple(0, 9), 7);
             Due.same("a fault", Due.orchard(x, Many.others(3) + "other oa;"), 3 + 16 * (Many.others(3).length() + 6));
+            // Twice, since what was read two orchards ago must be forgotten as well.
+            Due.same("few", Due.orchard(x, TOM + "person oa lane 1 loud 1;" + TIM), 0);
             Due.same("few", Due.orchard(x, TOM + "person oa lane 1 loud 1;" + TIM), 0);
             int[] few = {2, 2, 1, 0, 0, 0};
             for (int what = 0; what < 6; what++) {

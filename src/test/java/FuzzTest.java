@@ -37,9 +37,9 @@ public final class FuzzTest {
         StringBuilder s = new StringBuilder();
         int lines = BITS.length - LINES;
         for (int i = 0; i < LINES && chance.nextInt(40) > 0; i++) {
-            s.append(chance.nextInt(8) > 0 ? BITS[lines + i] : "");
+            s.append(chance.nextInt(60) > 0 ? BITS[lines + i] : "");
         }
-        for (int i = chance.nextInt(3) > 0 ? 0 : chance.nextInt(30); i > 0; i--) {
+        for (int i = chance.nextInt(5) > 0 ? 0 : chance.nextInt(30); i > 0; i--) {
             s.append(BITS[chance.nextInt(BITS.length)]);
         }
         if (chance.nextInt(10) == 0) {
@@ -48,8 +48,17 @@ public final class FuzzTest {
         Due.feed(x, s.toString());
     }
 
+    /** A tape that was not read ahead, or is empty, comes up now and then. */
+    private void tellOrchard() {
+        if (chance.nextInt(20) > 0) {
+            x.days();
+            feed();
+        }
+        x.orchard();
+    }
+
     private void tellDays() {
-        String[] lines = {"call p a;", "call q e;", "pick a;", "pick c;", "day;", "call p d;"};
+        String[] lines = {"call p a;", "call q e;", "pick a;", "pick c;", "day;", "call p d;", "day;", "call q b;"};
         StringBuilder s = new StringBuilder();
         for (int i = chance.nextInt(44); i > 0; i--) {
             s.append(lines[chance.nextInt(lines.length)]);
@@ -73,8 +82,12 @@ public final class FuzzTest {
 
     private void any() {
         switch (chance.nextInt(30)) {
-            case 0 -> feed();
-            case 1 -> x.orchard();
+            case 0 -> {
+                if (chance.nextInt(8) == 0) {
+                    feed();
+                }
+            }
+            case 1 -> tellOrchard();
             case 2 -> tellDays();
             case 3 -> x.apple(n(), n());
             case 4 -> x.near(n(), n(), n());
